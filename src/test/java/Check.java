@@ -29,6 +29,13 @@ final class Check {
         }
     }
 
+    void same(String what, String got, String due) {
+        made++;
+        if (!got.equals(due)) {
+            tell(what + " answered \"" + got + "\", due is \"" + due + "\"");
+        }
+    }
+
     void share(String what, double got, double due) {
         made++;
         if (got != due) {

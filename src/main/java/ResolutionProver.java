@@ -864,10 +864,10 @@ public final class ResolutionProver {
             int best = 0;
             int bestFalse = MOST_CLAUSES + 1;
             for (int variable = 0; variable < clauses.variables; variable++) {
-                int isFalse = countFalse(clauses, assignment ^ 1 << variable);
-                if (isFalse < bestFalse) {
+                int flipped = countFalse(clauses, assignment ^ 1 << variable);
+                if (flipped < bestFalse) {
                     best = variable;
-                    bestFalse = isFalse;
+                    bestFalse = flipped;
                 }
             }
             return best;

@@ -124,7 +124,8 @@ public final class ClausesTest {
 
     /** A clause that stands twice in a derivation counts once. */
     private static void sharedDerivations() {
-        ResolutionProver x = Feed.loaded("logic 3;clause a b;clause -a b;clause a -b;clause -b -a;");
+        ResolutionProver x =
+            Feed.loaded("logic 3;clause a b;clause -a b;clause a -b;clause -b -a;");
         CHECK.equal("resolve", x.resolve(0, 1), 4);
         CHECK.equal("resolve", x.resolve(4, 2), 5);
         CHECK.equal("resolve", x.resolve(4, 3), 6);

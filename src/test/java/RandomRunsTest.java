@@ -156,7 +156,7 @@ public final class RandomRunsTest {
                 mask |= place == 1 && random.nextInt(4) != 0 ? 1 << random.nextInt(4) & all : 0;
                 return place == 1 && random.nextInt(10) != 0 ? mask & ~(Integer) before[0] : mask;
             case "isTrue":
-                return place == 0 ? random.nextInt(prover.clauseCount() + 1) : random.nextInt(all + 2);
+                return random.nextInt(place == 0 ? prover.clauseCount() + 1 : all + 2);
             case "falseClauses":
             case "bestFlip":
                 return random.nextInt(all + 2);

@@ -1,6 +1,19 @@
+import java.lang.reflect.InvocationTargetException;
+import java.lang.reflect.Method;
+import java.util.Arrays;
+import java.util.Comparator;
+import java.util.function.Consumer;
+import java.util.function.Supplier;
+import java.util.regex.Matcher;
+import java.util.regex.Pattern;
+
 /** Compares answers with those that are due, and counts the wrong ones. */
 final class Check {
+    private static final Pattern NAMED_AFTER_A_PROMISE = Pattern.compile("promise(\\d+)[A-Z]\\w*");
+
     private final String name;
+    /** The test of a promise that runs, with a space behind it; empty while none runs. */
+    private String running = "";
     private int made = 0;
     private int wrong = 0;
 
@@ -69,9 +82,54 @@ final class Check {
         raises(what, IllegalStateException.class, call);
     }
 
+    /**
+     * The call has to throw, and afterwards everything has to be as in an object, made in the same
+     * way, that has not heard of the call.
+     */
+    void refused(String what, Class<? extends RuntimeException> due,
+            Supplier<ResolutionProver> maker, Consumer<ResolutionProver> call) {
+        ResolutionProver x = maker.get();
+        raises(what, due, () -> call.accept(x));
+        same("what is left of " + what, Everything.of(x), Everything.of(maker.get()));
+    }
+
+    /** Runs the methods of a test that are named after a promise, in the order of the promises. */
+    void runPromises(Class<?> test) {
+        Method[] methods = test.getDeclaredMethods();
+        Arrays.sort(methods,
+            Comparator.comparingInt(Check::promiseOf).thenComparing(Method::getName));
+        for (Method method : methods) {
+            if (promiseOf(method) > 0) {
+                running = method.getName() + " ";
+                run(method);
+            }
+        }
+        running = "";
+    }
+
+    /** Returns the number of the promise that a method is named after; 0 if there is none. */
+    static int promiseOf(Method method) {
+        Matcher matcher = NAMED_AFTER_A_PROMISE.matcher(method.getName());
+        return matcher.matches() ? Integer.parseInt(matcher.group(1)) : 0;
+    }
+
+    private void run(Method method) {
+        int before = made;
+        try {
+            method.invoke(null);
+        } catch (InvocationTargetException e) {
+            tell("threw " + e.getCause());
+        } catch (IllegalAccessException e) {
+            tell("cannot be called: " + e);
+        }
+        if (made == before) {
+            tell("asked for nothing");
+        }
+    }
+
     void tell(String text) {
         wrong++;
-        System.out.println(name + ": " + text);
+        System.out.println(name + ": " + running + text);
     }
 
     /** Ends the test: with exit code 1 if an answer was wrong or none was asked for. */

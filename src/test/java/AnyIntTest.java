@@ -1,4 +1,3 @@
-import java.lang.reflect.InvocationTargetException;
 import java.lang.reflect.Method;
 import java.lang.reflect.Modifier;
 import java.util.Arrays;
@@ -67,8 +66,8 @@ public final class AnyIntTest {
         Reference reference = new Reference();
         prepare(x, calls);
         prepare(reference, calls);
-        String got = answer(x, method, arguments);
-        CHECK.same(what, got, answer(reference, same(method), arguments));
+        String got = Answer.of(x, method, arguments);
+        CHECK.same(what, got, Answer.of(reference, same(method), arguments));
         boolean isParser = method.getName().equals("load") || method.getName().equals("play");
         if (got.startsWith("java.lang.") && !isParser) {
             ResolutionProver untouched = new ResolutionProver();
@@ -95,19 +94,9 @@ public final class AnyIntTest {
             for (Method method : object.getClass().getDeclaredMethods()) {
                 if (method.getName().equals(words[0])
                     && Modifier.isPublic(method.getModifiers())) {
-                    answer(object, method, arguments);
+                    Answer.of(object, method, arguments);
                 }
             }
-        }
-    }
-
-    private static String answer(Object object, Method method, Object[] arguments) {
-        try {
-            return String.valueOf(method.invoke(object, arguments));
-        } catch (InvocationTargetException e) {
-            return e.getCause().getClass().getName();
-        } catch (IllegalAccessException e) {
-            return e.toString();
         }
     }
 }

@@ -469,6 +469,24 @@ public final class BoundsOfChangesTest {
         CHECK.same("undo of play", Everything.butParseError(x), Everything.butParseError(y));
     }
 
+    static void promise60UndoBringsBackTheStateAndNothingElse() {
+        ResolutionProver x = Provers.worked();
+        x.undo();
+        x.undo();
+        CHECK.equal("clauseCount", x.clauseCount(), 5);
+        isWorkedButForTheState(x);
+    }
+
+    private static void isWorkedButForTheState(ResolutionProver x) {
+        CHECK.equal("parseError", x.parseError(), 4);
+        CHECK.equal("parseErrorPosition", x.parseErrorPosition(), 12);
+        CHECK.equal("outputByte(0)", x.outputByte(0), 'a');
+        CHECK.equal("outputByte(2)", x.outputByte(2), 'b');
+        CHECK.equal("bytes in the buffer", Everything.bytes(x), 19);
+        CHECK.yes("slot 0 is empty", x.save(0));
+        CHECK.no("slot 1 is full", x.save(1));
+    }
+
     static void promise61UndoDepthFrom0To8() {
         ResolutionProver x = new ResolutionProver();
         CHECK.equal("undoDepth", x.undoDepth(), 0);
@@ -586,6 +604,12 @@ public final class BoundsOfChangesTest {
         CHECK.equal("restore(0)", x.restore(0), 60);
         CHECK.same("the state", Feed.state(x), state);
         CHECK.equal("deepestClause", x.deepestClause(), deepest);
+    }
+
+    static void promise63RestoreBringsBackTheStateAndNothingElse() {
+        ResolutionProver x = Provers.worked();
+        CHECK.equal("restore(1)", x.restore(1), 4);
+        isWorkedButForTheState(x);
     }
 
     static void promise63RestoreLeavesNothingToUndo() {

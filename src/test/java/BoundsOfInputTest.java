@@ -1,3 +1,5 @@
+import java.util.function.Consumer;
+
 /** The edges that promises 1 to 7 name: a new object, the input buffer, load, play, the error. */
 public final class BoundsOfInputTest {
     private static final Check CHECK = new Check("BoundsOfInputTest");
@@ -290,15 +292,19 @@ public final class BoundsOfInputTest {
             "logic 1;expect refuted;", "logic 2;invert;reduce;saturate 1;expect models 3;",
             "logic 12;clause a;clause -a;resolve 0 1;$"};
         for (String text : texts) {
-            ResolutionProver x = Provers.worked();
-            x.truncate(0);
-            Feed.put(x, text);
-            CHECK.noArgument("load of " + text, x::load);
-            ResolutionProver y = Provers.worked();
-            y.truncate(0);
-            CHECK.same("load of " + text, Everything.butParseError(x),
-                Everything.butParseError(y));
+            throwsAndChangesNothingElse("load of " + text, text, ResolutionProver::load);
         }
+    }
+
+    private static void throwsAndChangesNothingElse(
+            String what, String text, Consumer<ResolutionProver> call) {
+        ResolutionProver x = Provers.worked();
+        x.truncate(0);
+        Feed.put(x, text);
+        CHECK.noArgument(what, () -> call.accept(x));
+        ResolutionProver y = Provers.worked();
+        y.truncate(0);
+        CHECK.same(what, Everything.butParseError(x), Everything.butParseError(y));
     }
 
     // ---- promise 5
@@ -371,14 +377,7 @@ public final class BoundsOfInputTest {
             "negate a;invert;reduce;clause;expect models 1;", "drop 5;drop 4;drop 3;saturate 9",
             "clause;clause;", "resolve 5 0 0;"};
         for (String script : scripts) {
-            ResolutionProver x = Provers.worked();
-            x.truncate(0);
-            Feed.put(x, script);
-            CHECK.noArgument("play of " + script, x::play);
-            ResolutionProver y = Provers.worked();
-            y.truncate(0);
-            CHECK.same("play of " + script, Everything.butParseError(x),
-                Everything.butParseError(y));
+            throwsAndChangesNothingElse("play of " + script, script, ResolutionProver::play);
         }
     }
 

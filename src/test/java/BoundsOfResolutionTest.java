@@ -293,7 +293,7 @@ public final class BoundsOfResolutionTest {
         CHECK.equal("it is there as the 60th", x.stepsToEmpty(), 0);
     }
 
-    /** Six steps lead to the empty clause: the clauses that are added have no part in them. */
+    /** The clauses that are added have no part in the steps, but take their places. */
     static void promise39StepsToEmptyUpToTheLastPlace() {
         String text = "logic 12;clause a b;clause -a b;clause a -b;clause -a -b;";
         ResolutionProver x = Feed.loaded(text);
@@ -306,6 +306,22 @@ public final class BoundsOfResolutionTest {
         x.addClause(2048, 0);
         CHECK.equal("with one place too few", x.stepsToEmpty(), NONE);
         CHECK.equal("the clauses stay", x.clauseCount(), 56);
+    }
+
+    /** Eight clauses of which the 52nd step makes the empty clause, as the 60th of all. */
+    static void promise39StepsToEmptyOf52Steps() {
+        String text = "logic 6;clause -a d;clause c d e;clause -b -c e;clause a -e;"
+            + "clause -b -c -e;clause b -c;clause c -d;clause -a b c e;";
+        CHECK.equal("stepsToEmpty", Feed.loaded(text).stepsToEmpty(), 52);
+        ResolutionProver x = Feed.loaded(text);
+        for (int left = 51; left >= 0; left--) {
+            x.saturate(1);
+            CHECK.equal("stepsToEmpty", x.stepsToEmpty(), left);
+        }
+        CHECK.equal("emptyClause", x.emptyClause(), 59);
+        ResolutionProver y = Feed.loaded(text);
+        y.addClause(32, 0);
+        CHECK.equal("with one clause more", y.stepsToEmpty(), NONE);
     }
 
     static void promise39StepsToEmptyIsNoneIfNoStepIsLeft() {

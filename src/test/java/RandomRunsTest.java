@@ -1,4 +1,3 @@
-import java.lang.reflect.InvocationTargetException;
 import java.lang.reflect.Method;
 import java.lang.reflect.Modifier;
 import java.util.ArrayList;
@@ -181,11 +180,11 @@ public final class RandomRunsTest {
     }
 
     private boolean invoke(Method method, Object... arguments) {
-        String got = answer(method, prover, arguments);
+        String got = Answer.of(prover, method, arguments);
         String due;
         try {
             Method same = Reference.class.getMethod(method.getName(), method.getParameterTypes());
-            due = answer(same, reference, arguments);
+            due = Answer.of(reference, same, arguments);
         } catch (NoSuchMethodException e) {
             due = e.toString();
         }
@@ -196,16 +195,6 @@ public final class RandomRunsTest {
             System.out.println("the run was:\n" + told);
         }
         return got.equals(due);
-    }
-
-    private static String answer(Method method, Object object, Object[] arguments) {
-        try {
-            return String.valueOf(method.invoke(object, arguments));
-        } catch (InvocationTargetException e) {
-            return e.getCause().getClass().getName();
-        } catch (IllegalAccessException e) {
-            return e.toString();
-        }
     }
 
     // ---- texts

@@ -1,6 +1,10 @@
 import java.lang.reflect.Method;
 import java.lang.reflect.Modifier;
 import java.util.Arrays;
+import java.util.Comparator;
+import java.util.HashMap;
+import java.util.Map;
+import java.util.function.Supplier;
 
 /**
  * Every method with every pair of ints from the edges of its arguments, on a new object, on one
@@ -15,13 +19,36 @@ public final class AnyIntTest {
     private static final String[] SOME_OF_ALL = {"addClause 3 0", "addClause 0 1", "addClause 4 2",
         "addClause 8 4", "resolve 0 1", "save 1", "resolve 2 4", "negateVariable 2",
         "writeClause 0", "append 1684170528 807415346 1702191205 539779584 0"};
+    private static final Map<String, Method> FACE = publicMethods(ResolutionProver.class);
+    private static final Map<String, Method> OF_REFERENCE = publicMethods(Reference.class);
+
+    /** What the objects hear before they are asked, and what they tell then. */
+    private final String[] names;
+    private final Object[][] arguments;
+    private final String before;
+
+    private AnyIntTest(String[] calls) {
+        names = new String[calls.length];
+        arguments = new Object[calls.length][];
+        for (int k = 0; k < calls.length; k++) {
+            String[] words = calls[k].split(" ");
+            names[k] = words[0];
+            arguments[k] = new Object[words.length - 1];
+            for (int place = 1; place < words.length; place++) {
+                arguments[k][place - 1] = Integer.parseInt(words[place]);
+            }
+        }
+        before = Everything.of(this::prepared);
+    }
 
     public static void main(String[] args) {
+        CHECK.equal("methods", FACE.size(), 64);
+        Method[] methods = FACE.values().toArray(new Method[0]);
+        Arrays.sort(methods, Comparator.comparing(Method::getName));
         for (String[] calls : new String[][] {NOTHING, SOME_OF_ALL, full()}) {
-            for (Method method : ResolutionProver.class.getDeclaredMethods()) {
-                if (Modifier.isPublic(method.getModifiers())) {
-                    askAll(calls, method);
-                }
+            AnyIntTest test = new AnyIntTest(calls);
+            for (Method method : methods) {
+                test.askAll(method);
             }
         }
         CHECK.end();
@@ -46,57 +73,54 @@ public final class AnyIntTest {
         return calls;
     }
 
-    private static void askAll(String[] calls, Method method) {
+    private static Map<String, Method> publicMethods(Class<?> of) {
+        Map<String, Method> methods = new HashMap<>();
+        for (Method method : of.getDeclaredMethods()) {
+            if (Modifier.isPublic(method.getModifiers())) {
+                methods.put(method.getName(), method);
+            }
+        }
+        return methods;
+    }
+
+    private void askAll(Method method) {
         int parameters = method.getParameterCount();
         for (int first : parameters == 0 ? new int[1] : INTS) {
             for (int second : parameters < 2 ? new int[1] : INTS) {
-                Object[] arguments = new Object[parameters];
+                Object[] these = new Object[parameters];
                 for (int k = 0; k < parameters; k++) {
                     boolean isFlag = method.getParameterTypes()[k] == boolean.class;
-                    arguments[k] = isFlag ? (Object) (second > 4) : k == 0 ? first : second;
+                    these[k] = isFlag ? (Object) (second > 4) : k == 0 ? first : second;
                 }
-                ask(calls, method, arguments);
+                ask(method, these);
             }
         }
     }
 
-    private static void ask(String[] calls, Method method, Object[] arguments) {
-        String what = method.getName() + Arrays.toString(arguments);
-        ResolutionProver x = new ResolutionProver();
+    private void ask(Method method, Object[] these) {
+        String what = method.getName() + Arrays.toString(these);
         Reference reference = new Reference();
-        prepare(x, calls);
-        prepare(reference, calls);
-        String got = Answer.of(x, method, arguments);
-        CHECK.same(what, got, Answer.of(reference, same(method), arguments));
+        prepare(reference, OF_REFERENCE);
+        String got = Answer.of(prepared(), method, these);
+        String due = Answer.of(reference, OF_REFERENCE.get(method.getName()), these);
+        CHECK.same(what, got, due);
         boolean isParser = method.getName().equals("load") || method.getName().equals("play");
         if (got.startsWith("java.lang.") && !isParser) {
-            ResolutionProver untouched = new ResolutionProver();
-            prepare(untouched, calls);
-            CHECK.same("what is left of " + what, Everything.of(x), Everything.of(untouched));
+            Supplier<ResolutionProver> asked =
+                Check.behind(this::prepared, x -> Answer.of(x, method, these));
+            CHECK.same("what is left of " + what, Everything.of(asked), before);
         }
     }
 
-    private static Method same(Method method) {
-        try {
-            return Reference.class.getMethod(method.getName(), method.getParameterTypes());
-        } catch (NoSuchMethodException e) {
-            throw new IllegalStateException(e);
-        }
+    private ResolutionProver prepared() {
+        ResolutionProver x = new ResolutionProver();
+        prepare(x, FACE);
+        return x;
     }
 
-    private static void prepare(Object object, String[] calls) {
-        for (String call : calls) {
-            String[] words = call.split(" ");
-            Object[] arguments = new Object[words.length - 1];
-            for (int k = 0; k < arguments.length; k++) {
-                arguments[k] = Integer.parseInt(words[k + 1]);
-            }
-            for (Method method : object.getClass().getDeclaredMethods()) {
-                if (method.getName().equals(words[0])
-                    && Modifier.isPublic(method.getModifiers())) {
-                    Answer.of(object, method, arguments);
-                }
-            }
+    private void prepare(Object object, Map<String, Method> methods) {
+        for (int k = 0; k < names.length; k++) {
+            Answer.of(object, methods.get(names[k]), arguments[k]);
         }
     }
 }

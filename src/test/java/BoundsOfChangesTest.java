@@ -42,7 +42,10 @@ public final class BoundsOfChangesTest {
         call.accept(x);
         CHECK.equal("changes behind " + what, x.undoDepth(), before + 1);
         CHECK.equal("undo of " + what, x.undo(), before);
-        CHECK.same("what is left of " + what, Everything.of(x), Everything.of(maker.get()));
+        CHECK.leavesAll(what, maker, y -> {
+            call.accept(y);
+            y.undo();
+        });
     }
 
     private static void isNoChange(String what, Consumer<ResolutionProver> call) {
@@ -100,11 +103,7 @@ public final class BoundsOfChangesTest {
     }
 
     static void promise54AddClauseIsOneChange() {
-        ResolutionProver x = Provers.worked();
-        CHECK.equal("addClause", x.addClause(15, 0), 6);
-        CHECK.equal("undoDepth", x.undoDepth(), 5);
-        CHECK.equal("undo", x.undo(), 4);
-        CHECK.same("what is left", Everything.of(x), Everything.of(Provers.worked()));
+        isOneChangeOfWorked("addClause", x -> CHECK.equal("addClause", x.addClause(15, 0), 6));
     }
 
     // ---- promise 55
@@ -241,11 +240,8 @@ public final class BoundsOfChangesTest {
     }
 
     static void promise56SaturateIsOneChange() {
-        ResolutionProver x = Feed.loaded(Provers.RING);
-        x.saturate(99);
-        CHECK.equal("undoDepth", x.undoDepth(), 1);
-        CHECK.equal("undo", x.undo(), 0);
-        CHECK.same("what is left", Everything.of(x), Everything.of(Feed.loaded(Provers.RING)));
+        isOneChangeOf("saturate(99)", () -> Feed.loaded(Provers.RING),
+            x -> CHECK.equal("saturate(99)", x.saturate(99), 48));
     }
 
     // ---- promise 57
@@ -460,13 +456,11 @@ public final class BoundsOfChangesTest {
         isOneChangeOfWorked("addClause", x -> x.addClause(0, 0));
         isOneChangeOfWorked("resolve", x -> x.resolve(3, 5));
         isOneChangeOfWorked("saturate", x -> x.saturate(1));
-        ResolutionProver x = Provers.worked();
-        x.truncate(0);
-        Feed.play(x, "reduce;clause;");
-        CHECK.equal("undo of play", x.undo(), 4);
-        ResolutionProver y = Provers.worked();
-        y.truncate(0);
-        CHECK.same("undo of play", Everything.butParseError(x), Everything.butParseError(y));
+        Supplier<ResolutionProver> maker = Check.behind(Provers::worked, x -> x.truncate(0));
+        CHECK.alikeButParseError("undo of play", Check.behind(maker, x -> {
+            Feed.play(x, "reduce;clause;");
+            CHECK.equal("undo of play", x.undo(), 4);
+        }), maker);
     }
 
     static void promise60UndoBringsBackTheStateAndNothingElse() {
@@ -589,21 +583,17 @@ public final class BoundsOfChangesTest {
     static void promise63RestoreReturns0To60() {
         for (int count : new int[] {0, 1, 59, 60}) {
             ResolutionProver x = Provers.withClauses(count);
-            String state = Feed.state(x);
             x.save(1);
             x.negateVariable(0);
             CHECK.equal("restore(1)", x.restore(1), count);
-            CHECK.same("the state", Feed.state(x), state);
+            CHECK.same("the state", Feed.state(x), Feed.state(Provers.withClauses(count)));
         }
-        ResolutionProver x = Provers.ofRing(48);
-        String state = Feed.state(x);
-        int deepest = x.deepestClause();
-        x.save(0);
-        x.dropClause(59);
-        x.negateVariable(11);
-        CHECK.equal("restore(0)", x.restore(0), 60);
-        CHECK.same("the state", Feed.state(x), state);
-        CHECK.equal("deepestClause", x.deepestClause(), deepest);
+        Supplier<ResolutionProver> saved = Check.behind(() -> Provers.ofRing(48), x -> x.save(0));
+        CHECK.leavesAll("restore(0)", saved, x -> {
+            x.dropClause(59);
+            x.negateVariable(11);
+            CHECK.equal("restore(0)", x.restore(0), 60);
+        });
     }
 
     static void promise63RestoreBringsBackTheStateAndNothingElse() {

@@ -37,11 +37,16 @@ public final class BoundsOfInputTest {
         return text.substring(0, last) + " ".repeat(length - text.length()) + text.substring(last);
     }
 
+    private static ResolutionProver workedWithoutBytes() {
+        ResolutionProver x = Provers.worked();
+        x.truncate(0);
+        return x;
+    }
+
     // ---- promise 1
 
     static void promise1ANewObjectIsThatOfLogic4() {
-        ResolutionProver loaded = Feed.loaded("logic 4;");
-        CHECK.same("a new object", Everything.of(new ResolutionProver()), Everything.of(loaded));
+        CHECK.alike("a new object", ResolutionProver::new, () -> Feed.loaded("logic 4;"));
     }
 
     static void promise1ANewObjectHasFourVariables() {
@@ -79,13 +84,16 @@ public final class BoundsOfInputTest {
     }
 
     static void promise1ANewObjectSharesNothingWithAnotherOne() {
-        ResolutionProver other = new ResolutionProver();
-        ResolutionProver x = new ResolutionProver();
-        other.addClause(1, 0);
-        other.save(0);
-        other.writeClause(0);
-        Feed.put(other, "logic 5");
-        CHECK.same("a new object", Everything.of(x), Everything.of(new ResolutionProver()));
+        String due = Everything.of(ResolutionProver::new);
+        CHECK.same("beside another object", Everything.of(() -> {
+            ResolutionProver other = new ResolutionProver();
+            ResolutionProver x = new ResolutionProver();
+            other.addClause(1, 0);
+            other.save(0);
+            other.writeClause(0);
+            Feed.put(other, "logic 5");
+            return x;
+        }), due);
     }
 
     // ---- promise 2
@@ -217,12 +225,10 @@ public final class BoundsOfInputTest {
 
     static void promise3TruncateChangesTheBufferAlone() {
         for (int length : new int[] {-1, 0, 5, 1000}) {
-            ResolutionProver x = Provers.worked();
-            x.truncate(length);
-            x.truncate(0);
-            ResolutionProver y = Provers.worked();
-            y.truncate(0);
-            CHECK.same("truncate(" + length + ")", Everything.of(x), Everything.of(y));
+            CHECK.alike("truncate(" + length + ")", Check.behind(Provers::worked, x -> {
+                x.truncate(length);
+                x.truncate(0);
+            }), BoundsOfInputTest::workedWithoutBytes);
         }
     }
 
@@ -298,13 +304,10 @@ public final class BoundsOfInputTest {
 
     private static void throwsAndChangesNothingElse(
             String what, String text, Consumer<ResolutionProver> call) {
-        ResolutionProver x = Provers.worked();
-        x.truncate(0);
-        Feed.put(x, text);
-        CHECK.noArgument(what, () -> call.accept(x));
-        ResolutionProver y = Provers.worked();
-        y.truncate(0);
-        CHECK.same(what, Everything.butParseError(x), Everything.butParseError(y));
+        CHECK.alikeButParseError(what, Check.behind(BoundsOfInputTest::workedWithoutBytes, x -> {
+            Feed.put(x, text);
+            CHECK.noArgument(what, () -> call.accept(x));
+        }), BoundsOfInputTest::workedWithoutBytes);
     }
 
     // ---- promise 5

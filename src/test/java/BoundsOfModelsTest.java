@@ -359,16 +359,16 @@ public final class BoundsOfModelsTest {
     }
 
     static void promise53HasConflictChangesNothing() {
-        ResolutionProver x = Provers.worked();
-        x.hasConflict();
-        x.fixedTrue();
-        x.fixedFalse();
-        x.modelCount();
-        x.alwaysTrue();
-        x.alwaysFalse();
-        x.bestFlip(15);
-        x.isRedundant(0);
-        x.isImplied(3, 12);
-        CHECK.same("a worked prover", Everything.of(x), Everything.of(Provers.worked()));
+        CHECK.leavesAll("these calls", Provers::worked, x -> {
+            x.hasConflict();
+            x.fixedTrue();
+            x.fixedFalse();
+            x.modelCount();
+            x.alwaysTrue();
+            x.alwaysFalse();
+            x.bestFlip(15);
+            x.isRedundant(0);
+            x.isImplied(3, 12);
+        });
     }
 }

@@ -50,10 +50,10 @@ public final class BoundsOfOutputTest {
     }
 
     static void promise64WriteClauseIsNoChange() {
-        ResolutionProver x = Provers.worked();
-        x.writeClause(5);
-        x.writeClause(0);
-        CHECK.same("a worked prover", Everything.of(x), Everything.of(Provers.worked()));
+        CHECK.leavesAll("writeClause", Provers::worked, x -> {
+            x.writeClause(5);
+            x.writeClause(0);
+        });
     }
 
     static void promise65OutputByteWithoutAText() {

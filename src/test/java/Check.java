@@ -88,9 +88,44 @@ final class Check {
      */
     void refused(String what, Class<? extends RuntimeException> due,
             Supplier<ResolutionProver> maker, Consumer<ResolutionProver> call) {
-        ResolutionProver x = maker.get();
-        raises(what, due, () -> call.accept(x));
-        same("what is left of " + what, Everything.of(x), Everything.of(maker.get()));
+        raises(what, due, () -> call.accept(maker.get()));
+        leavesAll(what, maker, x -> quietly(() -> call.accept(x)));
+    }
+
+    /** Whether it threw what is due has been told by then. */
+    private static void quietly(Runnable call) {
+        try {
+            call.run();
+        } catch (RuntimeException e) {
+            return;
+        }
+    }
+
+    /** Behind the calls everything has to be as in an object that has not heard of them. */
+    void leavesAll(String what, Supplier<ResolutionProver> maker,
+            Consumer<ResolutionProver> calls) {
+        alike("what is left of " + what, behind(maker, calls), maker);
+    }
+
+    /** Two objects have to tell the same; each maker always makes it in the same way. */
+    void alike(String what, Supplier<ResolutionProver> got, Supplier<ResolutionProver> due) {
+        same(what, Everything.of(got), Everything.of(due));
+    }
+
+    /** Two objects have to tell the same but for the parse error. */
+    void alikeButParseError(
+            String what, Supplier<ResolutionProver> got, Supplier<ResolutionProver> due) {
+        same(what, Everything.butParseError(got), Everything.butParseError(due));
+    }
+
+    /** The maker of objects that have heard of these calls. */
+    static Supplier<ResolutionProver> behind(
+            Supplier<ResolutionProver> maker, Consumer<ResolutionProver> calls) {
+        return () -> {
+            ResolutionProver x = maker.get();
+            calls.accept(x);
+            return x;
+        };
     }
 
     /** Runs the methods of a test that are named after a promise, in the order of the promises. */

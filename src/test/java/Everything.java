@@ -1,38 +1,44 @@
-/** All that an object tells, in words, so that two objects can be compared. */
+import java.util.function.Supplier;
+
+/**
+ * All that an object tells, in words, so that two objects can be compared. An object is used for
+ * 512 calls at most, and some of what it tells can only be asked once; so a maker makes it anew,
+ * always in the same way, for each part.
+ */
 final class Everything {
     private static final int MOST_BYTES = 500;
 
     private Everything() {
     }
 
-    /**
-     * Also the states behind undo and in the slots, and what stands in the input buffer; the object
-     * is of no use afterwards.
-     */
-    static String of(ResolutionProver x) {
-        return "error " + x.parseError() + " at " + x.parseErrorPosition() + butParseError(x);
+    /** Also the states behind undo and in the slots, and what stands in the input buffer. */
+    static String of(Supplier<ResolutionProver> maker) {
+        ResolutionProver x = maker.get();
+        return "error " + x.parseError() + " at " + x.parseErrorPosition() + butParseError(maker);
     }
 
     /** The same without the parse error, which a call of load or play sets even if it throws. */
-    static String butParseError(ResolutionProver x) {
+    static String butParseError(Supplier<ResolutionProver> maker) {
+        ResolutionProver x = maker.get();
+        int changes = x.undoDepth();
         StringBuilder text = new StringBuilder();
-        text.append("\n now ").append(seen(x));
-        text.append("\n written ").append(written(x));
-        while (x.undoDepth() > 0) {
-            x.undo();
-            text.append("\n before ").append(state(x));
+        text.append("\n now ").append(state(x)).append(conclusions(x));
+        text.append("\n written ").append(written(maker.get()));
+        text.append("\n changes ").append(changes);
+        for (int back = 1; back <= changes; back++) {
+            text.append("\n before ").append(stateBefore(maker.get(), back));
         }
-        text.append("\n slot 0 ").append(slot(x, 0));
-        text.append("\n slot 1 ").append(slot(x, 1));
-        text.append("\n buffer ").append(buffer(x));
+        text.append("\n slot 0 ").append(slot(maker.get(), 0));
+        text.append("\n slot 1 ").append(slot(maker.get(), 1));
+        text.append("\n buffer ").append(buffer(maker.get()));
         return text.toString();
     }
 
-    /** The state, and some of what follows from it. */
-    private static String seen(ResolutionProver x) {
-        return state(x) + " deepest " + x.deepestClause() + " models " + x.modelCount()
-            + " fixed " + x.fixedTrue() + '/' + x.fixedFalse() + " next " + x.nextFirst() + '+'
-            + x.nextSecond() + " changes " + x.undoDepth();
+    /** Some of what follows from a state. */
+    private static String conclusions(ResolutionProver x) {
+        return " deepest " + x.deepestClause() + " models " + x.modelCount() + " fixed "
+            + x.fixedTrue() + '/' + x.fixedFalse() + " next " + x.nextFirst() + '+'
+            + x.nextSecond();
     }
 
     private static String written(ResolutionProver x) {
@@ -41,6 +47,13 @@ final class Everything {
             text.append((char) x.outputByte(k));
         }
         return text.toString();
+    }
+
+    private static String stateBefore(ResolutionProver x, int changes) {
+        for (int k = 0; k < changes; k++) {
+            x.undo();
+        }
+        return state(x);
     }
 
     private static String slot(ResolutionProver x, int slot) {
@@ -54,8 +67,9 @@ final class Everything {
 
     private static String state(ResolutionProver x) {
         StringBuilder text = new StringBuilder(Feed.state(x));
+        int count = x.clauseCount();
         text.append(" depths");
-        for (int k = 0; k < x.clauseCount(); k++) {
+        for (int k = 0; k < count; k++) {
             text.append(' ').append(x.depthOf(k));
         }
         return text.toString();

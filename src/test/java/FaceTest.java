@@ -13,7 +13,7 @@ import java.util.Set;
 import java.util.regex.Matcher;
 import java.util.regex.Pattern;
 
-/** The face is that of the document, and the source keeps to the rules that a search can tell. */
+/** The face is that of the document (rule 1 of LANGUAGE.md). */
 public final class FaceTest {
     private static final Check CHECK = new Check("FaceTest");
     private static final Path SOURCE = Path.of("src/main/java/ResolutionProver.java");
@@ -22,7 +22,6 @@ public final class FaceTest {
     public static void main(String[] args) throws IOException {
         signatures();
         members();
-        source();
         CHECK.end();
     }
 
@@ -72,22 +71,5 @@ public final class FaceTest {
         for (Field field : ResolutionProver.class.getDeclaredFields()) {
             CHECK.yes(field + " is final", Modifier.isFinal(field.getModifiers()));
         }
-    }
-
-    private static void source() throws IOException {
-        String source = Files.readString(SOURCE);
-        for (String ruledOut : new String[] {"->", "::", "import ", "package ", "finally",
-            "synchronized", "assert", "instanceof", "catch", "throws Exception", "Throwable",
-            "Random", "System.nano", "System.current", "new String"}) {
-            CHECK.no("the source has " + ruledOut, source.contains(ruledOut));
-        }
-        CHECK.yes("all signs are below 128", source.chars().allMatch(sign -> sign < 128));
-        Matcher made = Pattern.compile("throw new (\\w+)").matcher(source);
-        Set<String> thrown = new HashSet<>();
-        while (made.find()) {
-            thrown.add(made.group(1));
-        }
-        CHECK.yes("what is thrown", thrown.equals(Set.of("IllegalArgumentException",
-            "IllegalStateException", "IndexOutOfBoundsException")));
     }
 }

@@ -41,7 +41,8 @@ final class Feed {
     static String state(ResolutionProver x) {
         StringBuilder text = new StringBuilder();
         text.append(x.variableCount());
-        for (int k = 0; k < x.clauseCount(); k++) {
+        int count = x.clauseCount();
+        for (int k = 0; k < count; k++) {
             text.append(" | ").append(x.positiveOf(k)).append('/').append(x.negativeOf(k));
             if (!x.isGiven(k)) {
                 text.append(" of ").append(x.positiveParent(k)).append('+')

@@ -254,9 +254,11 @@ public final class ParseErrorTest {
     private static ResolutionProver full() {
         ResolutionProver x = new ResolutionProver();
         Feed.load(x, "logic 12;clause a b c d e f g h i j k l;clause -a;");
-        for (int mask = 1; x.clauseCount() < 60; mask++) {
+        int count = 2;
+        for (int mask = 1; count < 60; mask++) {
             if (Integer.bitCount(mask) == 2) {
                 x.addClause(mask, 0);
+                count++;
             }
         }
         return x;

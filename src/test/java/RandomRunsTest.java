@@ -5,24 +5,41 @@ import java.util.Arrays;
 import java.util.Comparator;
 import java.util.List;
 import java.util.Random;
+import java.util.Set;
 
 /**
  * Runs of random calls on the prover and on the reference side by side, always the same ones; every
- * answer has to be the same, and after each change every answer without an argument, too.
+ * answer has to be the same, and after each change every answer without an argument, too. A prover
+ * is used for 512 calls at most, so that these answers are asked of copies: new provers that have
+ * heard the same changes.
  */
 public final class RandomRunsTest {
     private static final Check CHECK = new Check("RandomRunsTest");
     private static final int RUNS = 400;
     private static final int CALLS = 120;
+    private static final int MOST_CALLS_OF_AN_OBJECT = 512;
+    /** Of truncate, append (25 times), truncate, load, parseError and parseErrorPosition. */
+    private static final int CALLS_OF_A_TEXT = 30;
+    /** More than this leaves a copy too few calls for questions. */
+    private static final int MOST_HEARD = 400;
+    private static final Set<String> CHANGES_SOMETHING = Set.of("append", "truncate", "load",
+        "play", "addClause", "resolve", "saturate", "dropClause", "negateVariable", "reduce",
+        "undo", "save", "restore", "writeClause");
     private static final String[] CHANGES = {"addClause", "addClause", "addClause", "addClause",
         "resolve", "resolve", "saturate", "dropClause", "negateVariable", "reduce", "undo", "undo",
         "save", "restore"};
 
     private final Random random;
     private final ResolutionProver prover = new ResolutionProver();
+    private int calls = 0;
+    private ResolutionProver copy = null;
+    private int callsOfCopy = 0;
     private final Reference reference = new Reference();
     private final List<Method> methods;
     private final StringBuilder told = new StringBuilder();
+    /** The calls that a copy has to hear, and their arguments. */
+    private final List<Method> heard = new ArrayList<>();
+    private final List<Object[]> heardArguments = new ArrayList<>();
     /** How many letters and how many clauses the texts are to use. */
     private int letters = 4;
     private int numbers = 8;
@@ -57,18 +74,18 @@ public final class RandomRunsTest {
         if (isRich) {
             isGood &= fill(random.nextInt(75));
         }
-        for (int k = 0; k < CALLS && isGood; k++) {
+        for (int k = 0; k < CALLS && isGood && hasRoom(); k++) {
             int kind = random.nextInt(10);
             if (kind == 0) {
                 boolean isText = random.nextInt(6) == 0;
-                letters = prover.variableCount();
-                numbers = isText ? 5 : prover.clauseCount() + 1;
+                letters = reference.variableCount();
+                numbers = isText ? 5 : reference.clauseCount() + 1;
                 String text = isText ? header() : "";
                 text += commands(random.nextInt(8));
                 isGood = feed(random.nextInt(4) == 0 ? damaged(text) : text,
                     random.nextInt(12) == 0 != isText ? "load" : "play");
             } else if (kind < 4) {
-                isGood = call(named(CHANGES[random.nextInt(CHANGES.length)])) && callAllPlain();
+                isGood = call(named(CHANGES[random.nextInt(CHANGES.length)])) && askAll();
             } else {
                 isGood = call(methods.get(random.nextInt(methods.size())));
             }
@@ -76,18 +93,23 @@ public final class RandomRunsTest {
         return isGood;
     }
 
+    private boolean hasRoom() {
+        return calls + CALLS_OF_A_TEXT <= MOST_CALLS_OF_AN_OBJECT
+            && heard.size() + CALLS_OF_A_TEXT <= MOST_HEARD;
+    }
+
     /** Adds clauses of a few literals, so that there are many and much to resolve. */
-    private boolean fill(int calls) {
-        int all = (1 << prover.variableCount()) - 1;
+    private boolean fill(int count) {
+        int all = (1 << reference.variableCount()) - 1;
         boolean isGood = true;
-        for (int k = 0; k < calls; k++) {
+        for (int k = 0; k < count; k++) {
             int sign = random.nextInt(all + 1);
             int mask = random.nextInt(all + 1) & random.nextInt(all + 1);
             if (Integer.bitCount(mask) > 1) {
                 isGood &= invoke(named("addClause"), mask & sign, mask & ~sign);
             }
         }
-        return isGood && callAllPlain();
+        return isGood && askAll();
     }
 
     private Method named(String name) {
@@ -99,26 +121,37 @@ public final class RandomRunsTest {
         throw new IllegalStateException(name);
     }
 
-    /** Calls each method without a parameter that changes nothing, and the parents of all. */
-    private boolean callAllPlain() {
+    /** Asks each method without a parameter that changes nothing, and for the parents of all. */
+    private boolean askAll() {
         boolean isGood = true;
+        copy = null;
         for (Method method : methods) {
-            String name = method.getName();
-            if (method.getParameterCount() == 0 && !name.equals("load") && !name.equals("play")
-                && !name.equals("undo") && !name.equals("reduce")) {
-                isGood &= invoke(method);
+            if (method.getParameterCount() == 0 && !CHANGES_SOMETHING.contains(method.getName())) {
+                isGood &= ask(method);
             }
         }
-        for (int k = 0; k < prover.clauseCount(); k++) {
-            isGood &= invoke(named("positiveOf"), k) && invoke(named("negativeOf"), k)
-                && invoke(named("positiveParent"), k) && invoke(named("negativeParent"), k);
+        for (int k = 0; k < reference.clauseCount(); k++) {
+            isGood &= ask(named("positiveOf"), k) && ask(named("negativeOf"), k)
+                && ask(named("positiveParent"), k) && ask(named("negativeParent"), k);
         }
         return isGood;
     }
 
+    private boolean ask(Method method, Object... arguments) {
+        if (copy == null || callsOfCopy == MOST_CALLS_OF_AN_OBJECT) {
+            copy = new ResolutionProver();
+            for (int k = 0; k < heard.size(); k++) {
+                Answer.of(copy, heard.get(k), heardArguments.get(k));
+            }
+            callsOfCopy = heard.size();
+        }
+        callsOfCopy++;
+        return isSame(method, arguments, Answer.of(copy, method, arguments));
+    }
+
     private boolean call(Method method) {
         if (random.nextInt(2) == 0 && method.getName().toLowerCase().contains("resol")
-            && prover.resolvablePairs() > 0 && method.getParameterCount() == 2) {
+            && reference.resolvablePairs() > 0 && method.getParameterCount() == 2) {
             return callWithPair(method);
         }
         Object[] arguments = new Object[method.getParameterCount()];
@@ -132,9 +165,9 @@ public final class RandomRunsTest {
     private boolean callWithPair(Method method) {
         int first = 0;
         int second = 0;
-        while (!prover.areResolvable(first, second)) {
-            first = random.nextInt(prover.clauseCount());
-            second = random.nextInt(prover.clauseCount());
+        while (!reference.areResolvable(first, second)) {
+            first = random.nextInt(reference.clauseCount());
+            second = random.nextInt(reference.clauseCount());
         }
         return invoke(method, first, second);
     }
@@ -144,7 +177,7 @@ public final class RandomRunsTest {
         if (random.nextInt(15) == 0) {
             return edges[random.nextInt(edges.length)];
         }
-        int all = (1 << prover.variableCount()) - 1;
+        int all = (1 << reference.variableCount()) - 1;
         switch (name) {
             case "append":
                 return random.nextInt();
@@ -155,13 +188,13 @@ public final class RandomRunsTest {
                 mask |= place == 1 && random.nextInt(4) != 0 ? 1 << random.nextInt(4) & all : 0;
                 return place == 1 && random.nextInt(10) != 0 ? mask & ~(Integer) before[0] : mask;
             case "isTrue":
-                return random.nextInt(place == 0 ? prover.clauseCount() + 1 : all + 2);
+                return random.nextInt(place == 0 ? reference.clauseCount() + 1 : all + 2);
             case "falseClauses":
             case "bestFlip":
                 return random.nextInt(all + 2);
             case "occurrences":
             case "negateVariable":
-                return random.nextInt(prover.variableCount() + 1);
+                return random.nextInt(reference.variableCount() + 1);
             case "saturate":
                 return random.nextInt(4) == 0 ? random.nextInt(101) : random.nextInt(4);
             case "save":
@@ -171,16 +204,24 @@ public final class RandomRunsTest {
             case "truncate":
                 return random.nextInt(9) - 1;
             case "modelAt":
-                return random.nextInt(prover.modelCount() + 2) - 1;
+                return random.nextInt(reference.modelCount() + 2) - 1;
             case "clausesOfSize":
                 return random.nextInt(6) - 1;
             default:
-                return random.nextInt(Math.max(1, prover.clauseCount()));
+                return random.nextInt(Math.max(1, reference.clauseCount()));
         }
     }
 
     private boolean invoke(Method method, Object... arguments) {
-        String got = Answer.of(prover, method, arguments);
+        if (CHANGES_SOMETHING.contains(method.getName())) {
+            heard.add(method);
+            heardArguments.add(arguments);
+        }
+        calls++;
+        return isSame(method, arguments, Answer.of(prover, method, arguments));
+    }
+
+    private boolean isSame(Method method, Object[] arguments, String got) {
         String due;
         try {
             Method same = Reference.class.getMethod(method.getName(), method.getParameterTypes());
@@ -210,7 +251,7 @@ public final class RandomRunsTest {
         isGood &= invoke(named("truncate"), text.length());
         told.append("the text is \"").append(text).append("\"\n");
         return isGood && invoke(named(method)) && invoke(named("parseError"))
-            && invoke(named("parseErrorPosition")) && callAllPlain();
+            && invoke(named("parseErrorPosition")) && askAll();
     }
 
     private String header() {
@@ -274,7 +315,7 @@ public final class RandomRunsTest {
     }
 
     private String modelCount() {
-        return random.nextBoolean() ? number(6) : String.valueOf(prover.modelCount());
+        return random.nextBoolean() ? number(6) : String.valueOf(reference.modelCount());
     }
 
     private String literals() {
